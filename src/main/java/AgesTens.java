@@ -1025,6 +1025,8 @@ public final class AgesTens {
 
         private final Passings passings;
         private final int[] figures = new int[Passings.UNTOLD];
+        /** How many PASSINGS are not decided ahead of each UNTOLD. */
+        private final int[] undecided = new int[Passings.UNTOLD];
         /** How many PASSINGS become wrong by each figure of each UNTOLD, given those ahead. */
         private final int[] wrongs = new int[Passings.UNTOLD * FIGURES];
         private int fixedOne, fixedFigure;
@@ -1035,41 +1037,47 @@ public final class AgesTens {
 
         int countAll() {
             if (passings.counted == NONE) {
-                fixedOne = NONE;
+                begin(NONE, NONE);
                 passings.counted = countFrom(0, 0);
             }
             return passings.counted;
         }
 
         int countWith(int one, int r) {
-            fixedOne = one;
-            fixedFigure = r;
+            begin(one, r);
             return countFrom(0, 0);
         }
 
         /** The i-th, of which there must be more than i. */
         int pick(int i) {
-            fixedOne = NONE;
+            begin(NONE, NONE);
             int skip = i;
             int wrong = 0;
             int number = 0;
             for (int one = 0; one < Passings.UNTOLD; one++) {
                 weighFigures(one);
                 int r = 0;
-                for (int step = 0; step < FIGURES; step++) {
-                    figures[one] = step;
-                    int some = countFrom(one + 1, wrong + wrongs[one * FIGURES + step]);
-                    if (skip < some) {
-                        r = step;
-                        break;
-                    }
-                    skip -= some;
+                int ways = countBehind(one, r, wrong);
+                while (r < FIGURES - 1 && skip >= ways) {
+                    skip -= ways;
+                    r++;
+                    ways = countBehind(one, r, wrong);
                 }
-                figures[one] = r;
                 wrong += wrongs[one * FIGURES + r];
                 number = 10 * number + r;
             }
             return number;
+        }
+
+        private void begin(int one, int r) {
+            fixedOne = one;
+            fixedFigure = r;
+            for (int ahead = 0; ahead < Passings.UNTOLD; ahead++) {
+                undecided[ahead] = 0;
+                for (int j = 0; j < passings.many; j++) {
+                    undecided[ahead] += passings.sets[j] >> ahead != 0 ? 1 : 0;
+                }
+            }
         }
 
         /** How many ways there are to go on, with so many UNTOLD done and so many PASSINGS wrong. */
@@ -1077,28 +1085,22 @@ public final class AgesTens {
             if (wrong > passings.liars) {
                 return 0;
             }
-            if (one >= Passings.UNTOLD || wrong + undecided(one) <= passings.liars) {
+            if (one >= Passings.UNTOLD || wrong + undecided[one] <= passings.liars) {
                 return freeWays(one);
             }
             weighFigures(one);
             int ways = 0;
             for (int r = 0; r < FIGURES; r++) {
                 if (one != fixedOne || r == fixedFigure) {
-                    figures[one] = r;
-                    ways += countFrom(one + 1, wrong + wrongs[one * FIGURES + r]);
+                    ways += countBehind(one, r, wrong);
                 }
             }
             return ways;
         }
 
-        private int undecided(int one) {
-            int many = 0;
-            for (int j = 0; j < passings.many; j++) {
-                if (passings.sets[j] >> one != 0) {
-                    many++;
-                }
-            }
-            return many;
+        private int countBehind(int one, int r, int wrong) {
+            figures[one] = r;
+            return countFrom(one + 1, wrong + wrongs[one * FIGURES + r]);
         }
 
         private int freeWays(int one) {
@@ -1109,24 +1111,21 @@ public final class AgesTens {
             return ways;
         }
 
+        /** A PASSING that was let is wrong by all figures but the one needed, another by that one alone. */
         private void weighFigures(int one) {
             int row = one * FIGURES;
             for (int r = 0; r < FIGURES; r++) {
                 wrongs[row + r] = 0;
             }
+            int lets = 0;
             for (int j = 0; j < passings.many; j++) {
                 if (passings.sets[j] >> one == 1) {
-                    addWrongs(row, neededFigure(j, one), passings.let[j]);
+                    wrongs[row + neededFigure(j, one)] += passings.let[j] ? -1 : 1;
+                    lets += passings.let[j] ? 1 : 0;
                 }
             }
-        }
-
-        /** A PASSING that was let fits with the figure needed alone, one that was not with all others. */
-        private void addWrongs(int row, int needed, boolean let) {
             for (int r = 0; r < FIGURES; r++) {
-                if ((r == needed) != let) {
-                    wrongs[row + r]++;
-                }
+                wrongs[row + r] += lets;
             }
         }
 

@@ -104,6 +104,10 @@ public final class BookTest {
         fault("persons 1900 1 1;", 0);
         fault("perso 1900 1 1;", 0);
         fault(" per son", 1);
+        fault("personz 1900 1 1;", 0);
+        fault("ferson 1900 1 1;", 0);
+        fault("late 0 8;", 0);
+        fault("gatf 0 8;", 0);
         fault("gatewith 0 1;", 0);
         fault("Gate 0 8;", 0);
         fault("7;", 0);

@@ -114,6 +114,9 @@ public final class CompaniesTest {
         // Of three fives one is left: the least goes, with the least.
         AgesTens w = of(0, 2, 5, 5, 5);
         overIs("the highest is left", w, 7, 4, 3);
+        // 0 comes first, though the company of the others has less bits.
+        AgesTens r = of(0, 2, 1, 2, 8, 9);
+        overIs("0 first", r, 15, 0, 0b1001, 0b110);
         AgesTens v = of(0, 2, 3, 7, 3, 3);
         overIs("the least goes", v, 15, 0b1100, 3);
         // 0 is left though it could go with 1: a company of the others leaves fewer.
@@ -160,6 +163,10 @@ public final class CompaniesTest {
         Check.due("of like ones the least", like.lent(1, 0, DAY), 2);
         AgesTens fewer = of(0, 3, 5, 2, 3, 15);
         Check.due("fewer are ahead of less bits", fewer.lent(1, 0, DAY), 8);
+        AgesTens all = of(0, 8, 1, 1, 1, 1, 1, 1, 1, 3);
+        Check.due("eight", all.lent(0, 0, DAY), 255);
+        Check.due("seven", all.lent(1, 0, DAY), 254);
+        Check.due("the last", all.lent(127, 0, DAY), 128);
         AgesTens tied = of(0, 3, 10, 10, 10);
         tied.pair(0, 2, 0);
         Check.due("with", tied.lent(1, 0, DAY), 4);
@@ -185,9 +192,11 @@ public final class CompaniesTest {
         AgesTens x = of(0, 3, 3, 7, 10, 13, 20);
         int[] due = {3, 6, 4, 3, 4};
         for (int p = 0; p < due.length; p++) {
-            int one = p;
-            Check.looks(x, "worth " + p, y -> y.worth(one, 0, DAY), due[p]);
+            int who = p;
+            Check.looks(x, "worth " + p, y -> y.worth(who, 0, DAY), due[p]);
         }
+        AgesTens one = of(0, 8, 10);
+        Check.due("of itself alone", one.worth(0, 0, DAY), 1);
         int[][] wrong = {{5, 0, DAY}, {-1, 0, DAY}, {1, 1, DAY}, {1, -1, DAY}, {1, 0, -1}, {1, 0, 146097},
             {Integer.MIN_VALUE, 0, DAY}, {Integer.MAX_VALUE, 0, DAY}, {1, Integer.MAX_VALUE, DAY},
             {1, Integer.MIN_VALUE, DAY}, {1, 0, Integer.MAX_VALUE}, {1, 0, Integer.MIN_VALUE}};

@@ -159,6 +159,13 @@ public final class DatesTest {
         z.person(LAST - 5000);
         z.gate(1, 8);
         Check.looks(z, "none to the last day", y -> y.wedding(1, 0, 0, LAST - 1000), -1);
+        AgesTens eight = new AgesTens();
+        for (int p = 0; p < 8; p++) {
+            eight.person(100 * p);
+        }
+        eight.gate(3, 1);
+        Check.looks(eight, "eight companies of one", y -> y.wedding(255, 0, 0, 0), 700);
+        Check.looks(eight, "five and three", y -> y.wedding(31, 224, 0, 0), 700);
         AgesTens none = new AgesTens();
         none.gate(0, 1);
         Check.looks(none, "nobody there is", y -> y.wedding(0, 0, 0, LAST), LAST);

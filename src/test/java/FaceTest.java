@@ -23,7 +23,7 @@ public final class FaceTest {
         "int untold(int,int)", "int part(int)", "int image(int)", "int from(int)", "int status(int)",
         "int count(int)", "long digest()"};
 
-    public static void main(String[] args) throws IOException, IllegalAccessException {
+    public static void main(String[] args) throws IOException {
         constants();
         face();
         classesInside();
@@ -43,10 +43,7 @@ public final class FaceTest {
         Check.isTrue("public and final", Modifier.isPublic(AgesTens.class.getModifiers())
             && Modifier.isFinal(AgesTens.class.getModifiers()));
         Set<String> due = new TreeSet<>(Arrays.asList(FACE));
-        Set<String> names = new TreeSet<>();
-        for (String told : FACE) {
-            names.add(told.substring(told.indexOf(' ') + 1, told.indexOf('(')));
-        }
+        Set<String> names = names();
         for (Method method : AgesTens.class.getDeclaredMethods()) {
             if (Modifier.isPrivate(method.getModifiers())) {
                 Check.isTrue("a private " + method.getName(), !names.contains(method.getName()));
@@ -71,6 +68,14 @@ public final class FaceTest {
         Check.isTrue("public fields: " + open, open.equals(Set.of("NONE", "BAD", "NO", "FULL")));
     }
 
+    private static Set<String> names() {
+        Set<String> names = new TreeSet<>();
+        for (String told : FACE) {
+            names.add(told.substring(told.indexOf(' ') + 1, told.indexOf('(')));
+        }
+        return names;
+    }
+
     private static void classesInside() {
         Class<?>[] inside = AgesTens.class.getDeclaredClasses();
         Check.isTrue("some twelve classes at most", inside.length + 1 <= 12);
@@ -86,6 +91,7 @@ public final class FaceTest {
             Check.isTrue(one + " has some twenty fields at most", fields <= 20);
             for (Method method : one.getDeclaredMethods()) {
                 Check.isTrue(method + " takes seven at most", method.getParameterCount() <= 7);
+                Check.isTrue(method + " has a name of its own", !names().contains(method.getName()));
             }
         }
     }
