@@ -26,6 +26,7 @@ final class EdgesOfBook {
         blanksAnyNumber();
         blanksNeeded();
         faultOfAWordThatIsNone();
+        faultOfAWordWithAnotherLetter();
         faultOfA9thPerson();
         faultOfA5thGate();
         faultOfFiveFigures();
@@ -316,6 +317,18 @@ final class EdgesOfBook {
         }
     }
 
+    private static void faultOfAWordWithAnotherLetter() {
+        Edge.told(Edge.TERMS, "(a word that is none");
+        String[] items = {"person 1800 1 1;", GATE, "with 0 1;", "apart 0 1;"};
+        for (String item : items) {
+            items(TWO + item, 3);
+            for (int i = 0; item.charAt(i) >= 'a'; i++) {
+                String wrong = item.substring(0, i) + 'q' + item.substring(i + 1);
+                fault(TWO + wrong, TWO.length());
+            }
+        }
+    }
+
     private static void faultOfA9thPerson() {
         Edge.told(Edge.TERMS, "a 9th person");
         String eight = PERSON.repeat(8);
@@ -374,6 +387,7 @@ final class EdgesOfBook {
             boolean begins = b == ' ' || b == ';' || b >= '0' && b <= '9' || b >= 'a' && b <= 'z';
             if (!begins) {
                 fault(GATE + (char) b, 8);
+                fault("gate0 1" + (char) b, 7);
             }
         }
         fault("-1", 0);
@@ -447,6 +461,13 @@ final class EdgesOfBook {
         y.person(0);
         y.person(0);
         Edge.due("blanks: no WITH, also of those who come later", y.pair(0, 1, 0), 1);
+        AgesTens tied = with(TWO + "with0 1;apart0 1;");
+        tied.read();
+        tied.clear();
+        type(tied, TWO);
+        tied.read();
+        Edge.due("WITH of the BOOK ahead is gone", tied.pair(0, 1, 0), 1);
+        Edge.due("APART of the BOOK ahead is gone", tied.pair(0, 1, 1), 1);
         AgesTens full = Edge.brimful();
         full.clear();
         type(full, PERSON.repeat(8) + GATE.repeat(4));
@@ -475,12 +496,13 @@ final class EdgesOfBook {
 
     private static void readStays() {
         Edge.told(11, "(it stays)");
-        AgesTens x = with(TWO);
-        Edge.due("read", x.read(), 2);
-        Edge.due("its bytes", x.count(2), 30);
-        Edge.due("read again: in place of what was read", x.read(), 2);
+        AgesTens x = with(TWO + GATE);
+        Edge.due("read", x.read(), 3);
+        Edge.due("its bytes", x.count(2), 38);
+        Edge.due("read again: in place of what was read", x.read(), 3);
         Edge.due("PEOPLE", x.count(0), 2);
+        Edge.due("GATES", x.count(1), 1);
         type(x, "with0 1;");
-        Edge.due("more behind it", x.read(), 3);
+        Edge.due("more behind it", x.read(), 4);
     }
 }

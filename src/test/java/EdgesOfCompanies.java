@@ -21,6 +21,7 @@ final class EdgesOfCompanies {
         overOfNoSet();
         overAtNoPlace();
         overOfNoWhat();
+        partsOfTheLeastFirst();
         partsInLeastBits();
         partsOfThoseLeft();
         partsNotSoMany();
@@ -162,6 +163,7 @@ final class EdgesOfCompanies {
         AgesTens x = Edge.of(0, 2, 5, 5, 5);
         over(x, 6, 0, 1, 0);
         over(x, 4, 1, 0, 4);
+        over(x, 3, 0, 1, 0);
     }
 
     private static void overOfTheEmptySet() {
@@ -200,6 +202,13 @@ final class EdgesOfCompanies {
             Edge.due("COMPANY " + i + " of " + set, x.parts(set, 0, DAY, i), companies[i]);
         }
         Edge.due("the one behind the last of " + set, x.parts(set, 0, DAY, companies.length), -5);
+    }
+
+    private static void partsOfTheLeastFirst() {
+        Edge.told(Edge.TERMS, "PARTS, one by one: the least who is neither left nor in a COMPANY yet");
+        parts(Edge.of(0, 2, 5, 10, 5), 7, 0b101, 0b010);
+        parts(Edge.of(0, 2, 5, 10, 10, 5), 15, 0b1001, 0b0110);
+        parts(Edge.of(0, 2, 3, 5, 10, 5), 15, 0b1010, 0b0100);
     }
 
     private static void partsInLeastBits() {
@@ -285,6 +294,7 @@ final class EdgesOfCompanies {
         Edge.told(15, "LENT, as bits. NONE.");
         Edge.looks(() -> Edge.of(0, 8, 5, 10, 5), "a COMPANY is of one at least", x -> x.lent(0, 0, DAY), 2);
         Edge.looks(() -> Edge.of(0, 8, 5, 3, 5), "two, if one can not", x -> x.lent(0, 0, DAY), 5);
+        Edge.looks(() -> Edge.of(0, 8, 3, 1, 1, 1, 1, 1, 1, 1), "all eight, if need be", x -> x.lent(0, 0, DAY), 255);
         Edge.looks(() -> Edge.of(0, 8, 5, 3), "no COMPANY MAY", x -> x.lent(0, 0, DAY), -1);
         Edge.looks(() -> Edge.of(0, 8), "of no PEOPLE", x -> x.lent(0, 0, DAY), -1);
     }
@@ -325,7 +335,8 @@ final class EdgesOfCompanies {
     private static void worthOfNobody() {
         Edge.told(16, "WORTH. BAD.");
         Edge.range(EdgesOfCompanies::eight, "worth n 0 73000", (x, n) -> x.worth(n, 0, DAY), 0, 128, 7, 128, -2);
-        Edge.range(() -> Edge.of(0, 8, 10, 1), "worth n 0 73000 of two", (x, n) -> x.worth(n, 0, DAY), 0, 1, 1, 0, -2);
+        Edge.range(() -> Edge.of(0, 8, 10, 1), "worth n 0 73000 of two", (x, n) -> x.worth(n, 0, DAY), 0, 1, 1, 0,
+            -2);
         Edge.bad(() -> Edge.of(0, 8), "of no PEOPLE", x -> x.worth(0, 0, DAY));
     }
 

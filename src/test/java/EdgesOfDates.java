@@ -227,6 +227,8 @@ final class EdgesOfDates {
         Edge.looks(() -> Edge.of(0, 8, 5, 5), "5 and 5 as one set", x -> x.wedding(3, 0, 0, Edge.TODAY), Edge.TODAY);
         Edge.looks(() -> Edge.of(0, 2, 1, 9, 9, 1, 5, 5, 0, 10), "in several COMPANIES each", x -> x.wedding(0x33,
             0xcc, 0, Edge.TODAY), Edge.TODAY);
+        Edge.looks(() -> Edge.of(0, 1, new int[8]), "eight COMPANIES of one", x -> x.wedding(255, 0, 0, Edge.TODAY),
+            Edge.TODAY);
         Edge.looks(Edge::busy, "two who are WITH, in sets apart", x -> x.wedding(1, 2, 0, Edge.TODAY), -1);
     }
 

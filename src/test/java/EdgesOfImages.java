@@ -51,11 +51,35 @@ final class EdgesOfImages {
             Edge.due("nothing changes by it", x.digest(), was);
             empty(x);
             Edge.due("all is gone", x.digest(), new AgesTens().digest());
+            fillOtherwise(x);
             Edge.due("from " + i, x.from(i), 1);
             Edge.due("all is there again", x.digest(), was);
             Edge.due("AGE, too", x.age(7, Edge.TODAY), 199);
+            Edge.due("AGE ahead of the birthday, too", x.age(7, Edge.day(2000, 1, 1) - 1), 199);
+            Edge.due("AGE on the birthday, too", x.age(7, Edge.day(2000, 1, 1)), 200);
+            Edge.due("who MAY, too", x.can(3, Edge.TODAY, 0, -1), 36);
+            Edge.due("FITS, too", x.fits(-1), Edge.brimful().fits(-1));
             Edge.due("FULL, too", x.person(0), -4);
         }
+    }
+
+    /** As full as brimful, but of other numbers: nothing of it may be seen behind from. */
+    private static void fillOtherwise(AgesTens x) {
+        for (int p = 0; p < 8; p++) {
+            x.person(5000 + 77 * p);
+            x.pair(0, p, p % 2);
+        }
+        for (int g = 0; g < 4; g++) {
+            x.gate(g, 8 - g);
+        }
+        for (int i = 0; i < 25; i++) {
+            x.type(0x123456789abcdefL, 8);
+        }
+        for (int r = 0; r <= 9; r++) {
+            x.crowd(r, r % 6);
+            x.passing(1 + r, r, r % 3 == 0);
+        }
+        x.liars(1);
     }
 
     private static void empty(AgesTens x) {

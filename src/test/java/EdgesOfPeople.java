@@ -298,6 +298,11 @@ final class EdgesOfPeople {
     private static void apartNever() {
         Edge.told(Edge.TERMS, "APART: never together");
         reasons(tied(1), 0, 0, 4, 0, 0, 0, 4);
+        AgesTens x = tied(1);
+        x.pair(1, 2, 1);
+        reasons(x, 0, 0, 4, 0, 0, 4, 4);
+        x.pair(2, 0, 1);
+        reasons(x, 0, 0, 4, 0, 4, 4, 4);
     }
 
     private static void withAndApart() {

@@ -20,6 +20,8 @@ final class EdgesOfUntold {
         fitsOfAllFive();
         fitsHowMany();
         fitsByFiveFigures();
+        fitsByFiguresWithLiars();
+        fitsOfWhatIsToldNow();
         fitsNotSoMany();
         fitsBelowNone();
         untoldOne();
@@ -242,6 +244,47 @@ final class EdgesOfUntold {
         Edge.due("UNTOLD 2 has not 7, the last ahead", middle.fits(699), 699);
         Edge.due("the first behind", middle.fits(700), 800);
         Edge.due("the last", middle.fits(89999), 99999);
+    }
+
+    private static void fitsByFiguresWithLiars() {
+        Edge.told(26, "the i-th as a number of five figures");
+        AgesTens x = told(1, new int[] {1, 0, 1}, new int[] {2, 0, 1});
+        Edge.due("the last of 0 ahead", x.fits(9999), 9999);
+        Edge.due("the first of 1 ahead, where the next must be 0", x.fits(10000), 10000);
+        Edge.due("the last of them", x.fits(10999), 10999);
+        Edge.due("the first of 2 ahead", x.fits(11000), 20000);
+        Edge.due("the last of all", x.fits(18999), 90999);
+        Edge.due("the one behind it", x.fits(19000), -5);
+        Edge.due("how many", x.fits(-1), 19000);
+        AgesTens y = told(1, new int[] {1, 0, 1}, new int[] {2, 5, 1});
+        Edge.due("the first of 1 ahead, where the next must be 5", y.fits(10000), 15000);
+        Edge.due("the first of 2 ahead", y.fits(11000), 25000);
+        Edge.due("the last of all", y.fits(18999), 95999);
+    }
+
+    private static void fitsOfWhatIsToldNow() {
+        Edge.told(26, "FITS");
+        AgesTens x = new AgesTens();
+        Edge.due("nothing is told", x.fits(-1), 100000);
+        x.passing(1, 0, true);
+        Edge.due("a PASSING", x.fits(-1), 10000);
+        x.image(0);
+        x.passing(2, 0, false);
+        Edge.due("another", x.fits(-1), 9000);
+        x.liars(1);
+        Edge.due("LIARS 1", x.fits(-1), 91000);
+        x.from(0);
+        Edge.due("from an IMAGE", x.fits(-1), 10000);
+        Edge.due("its last", x.fits(9999), 9999);
+        x.forget();
+        Edge.due("all is forgotten", x.fits(-1), 100000);
+        Edge.due("one between", x.fits(54321), 54321);
+        Edge.due("the last", x.fits(99999), 99999);
+        x.untold(0, 5);
+        Edge.due("one between, behind a share", x.fits(98765), 98765);
+        x.untold(3, 0);
+        Edge.due("another", x.fits(12), 12);
+        Edge.due("how many, behind a share", x.fits(-1), 100000);
     }
 
     private static void fitsNotSoMany() {
